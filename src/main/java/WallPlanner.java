@@ -451,43 +451,50 @@ public final class WallPlanner {
 
         /** Opens the doors that the rooms of the first so many hosts need, and counts what comes of it. */
         void draw(int[] needs, int[] bars, int hosts) {
-            openDoors(needs, hosts);
-            countRules();
-            countStrays(needs, bars, hosts);
-        }
-
-        private void openDoors(int[] needs, int hosts) {
-            Arrays.fill(doors, 0);
+            openRooms();
             for (int from = 0; from < hosts; from++) {
-                for (int to = 0; to < hosts; to++) {
-                    if (areIn(from, to)) {
-                        doors[pairOf(roomOf[from], roomOf[to])] |= needs[pairOf(from, to)];
-                    }
+                if (roomOf[from] != NONE) {
+                    openDoorsFrom(from, needs, hosts);
                 }
             }
+            strays = 0;
+            letsBarred = false;
+            for (int from = 0; from < hosts; from++) {
+                if (roomOf[from] != NONE) {
+                    countStraysFrom(from, needs, bars, hosts);
+                }
+            }
+        }
+
+        private void openRooms() {
+            rules = 0;
+            Arrays.fill(doors, 0);
             for (int room = 0; room < MOST_HOSTS; room++) {
                 doors[pairOf(room, room)] = ALL_DOORS;
             }
         }
 
-        private void countRules() {
-            rules = 0;
-            for (int pair = 0; pair < PAIRS; pair++) {
-                rules += Integer.bitCount(doors[pair]);
+        private void openDoorsFrom(int from, int[] needs, int hosts) {
+            int ownRoom = roomOf[from];
+            for (int to = 0; to < hosts; to++) {
+                int need = needs[pairOf(from, to)];
+                if (need != 0 && roomOf[to] != NONE) {
+                    // Within a room every door is open already, so what is opened here is a rule.
+                    int pair = pairOf(ownRoom, roomOf[to]);
+                    rules += Integer.bitCount(need & ~doors[pair]);
+                    doors[pair] |= need;
+                }
             }
-            rules -= MOST_HOSTS * DOORS;
         }
 
-        private void countStrays(int[] needs, int[] bars, int hosts) {
-            strays = 0;
-            letsBarred = false;
-            for (int from = 0; from < hosts; from++) {
-                for (int to = 0; to < hosts; to++) {
-                    if (from != to && areIn(from, to)) {
-                        int open = doorsBetween(from, to);
-                        strays += Integer.bitCount(open & ~needs[pairOf(from, to)]);
-                        letsBarred = letsBarred || (open & bars[pairOf(from, to)]) != 0;
-                    }
+        private void countStraysFrom(int from, int[] needs, int[] bars, int hosts) {
+            int ownRoom = roomOf[from];
+            for (int to = 0; to < hosts; to++) {
+                int open = roomOf[to] == NONE || to == from ? 0 : doors[pairOf(ownRoom, roomOf[to])];
+                if (open != 0) {
+                    int pair = pairOf(from, to);
+                    strays += Integer.bitCount(open & ~needs[pair]);
+                    letsBarred = letsBarred || (open & bars[pair]) != 0;
                 }
             }
         }
