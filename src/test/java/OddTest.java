@@ -12,15 +12,6 @@ public final class OddTest {
         DUE.end();
     }
 
-    private static WallPlanner withHosts(int hosts) {
-        WallPlanner x = new WallPlanner();
-        for (int i = 0; i < hosts; i++) {
-            x.host(0);
-        }
-        x.prices(0, 99);
-        return x;
-    }
-
     private static void oddTalk(String what, WallPlanner x, int k, int... due) {
         for (int i = 0; i < due.length; i++) {
             DUE.is(what + ": oddTalk(" + k + ", " + i + ")", x.oddTalk(k, i), due[i]);
@@ -28,7 +19,7 @@ public final class OddTest {
     }
 
     private static void wrongDays() {
-        WallPlanner x = withHosts(2);
+        WallPlanner x = Setup.withHostsApart(2);
         x.talk(0, 1, 0, 3, 1);
         DUE.is("18: no plan", x.odd(3), -1);
         DUE.is("19: no plan", x.oddTalk(0, 0), -1);
@@ -48,7 +39,7 @@ public final class OddTest {
     }
 
     private static void nearness() {
-        WallPlanner x = withHosts(4);
+        WallPlanner x = Setup.withHostsApart(4);
         x.talk(0, 1, 0, 0, 1);
         x.talk(1, 0, 2, 0, 1);
         x.talk(2, 3, 1, 0, 1);
@@ -73,7 +64,7 @@ public final class OddTest {
     }
 
     private static void withinARoom() {
-        WallPlanner x = withHosts(2);
+        WallPlanner x = Setup.withHostsApart(2);
         x.prices(99, 0);
         x.must(0, 1, 0, true);
         x.plan(0);
@@ -82,7 +73,7 @@ public final class OddTest {
     }
 
     private static void hostsInNoRoom() {
-        WallPlanner x = withHosts(2);
+        WallPlanner x = Setup.withHostsApart(2);
         x.must(0, 1, 0, true);
         x.plan(0);
         x.host(0);
@@ -98,7 +89,7 @@ public final class OddTest {
     }
 
     private static void asItWasThen() {
-        WallPlanner x = withHosts(2);
+        WallPlanner x = Setup.withHostsApart(2);
         x.must(0, 1, 0, true);
         x.plan(0);
         x.talk(0, 1, 1, 0, 5);
@@ -112,7 +103,7 @@ public final class OddTest {
     }
 
     private static void many() {
-        WallPlanner x = withHosts(2);
+        WallPlanner x = Setup.withHostsApart(2);
         x.plan(0);
         for (int i = 0; i < 300; i++) {
             x.talk(i % 2, 1 - i % 2, 0, 9, 1 + i);

@@ -19,21 +19,6 @@ public final class PlaceTest {
         DUE.end();
     }
 
-    private static WallPlanner withHosts(int... marks) {
-        WallPlanner x = new WallPlanner();
-        for (int mark : marks) {
-            x.host(mark);
-        }
-        return x;
-    }
-
-    private static void mustAll(WallPlanner x, int from, int to) {
-        for (int door = 0; door < 4; door++) {
-            x.must(from, to, door, true);
-            x.must(to, from, door, true);
-        }
-    }
-
     private static void rooms(String what, WallPlanner x, int... due) {
         for (int host = 0; host < due.length; host++) {
             DUE.is(what + ": room(" + host + ")", x.room(host), due[host]);
@@ -47,7 +32,7 @@ public final class PlaceTest {
     }
 
     private static void wrong() {
-        WallPlanner x = withHosts(0);
+        WallPlanner x = Setup.withMarks(0);
         DUE.is("20: no plan", x.place(0, 0), -1);
         x.plan(0);
         DUE.is("20: it is in one", x.place(0, 0), -1);
@@ -64,9 +49,9 @@ public final class PlaceTest {
 
     /** Hosts 0, 1 in room 0 and hosts 2, 3 in room 1; host 4 is new. */
     private static WallPlanner twoRooms() {
-        WallPlanner x = withHosts(0, 0, 1, 1);
-        mustAll(x, 0, 1);
-        mustAll(x, 2, 3);
+        WallPlanner x = Setup.withMarks(0, 0, 1, 1);
+        Setup.mustAll(x, 0, 1);
+        Setup.mustAll(x, 2, 3);
         x.plan(0);
         rooms("20: two rooms", x, 0, 0, 1, 1);
         x.host(1);
@@ -75,7 +60,7 @@ public final class PlaceTest {
 
     private static void theCheapestRoom() {
         WallPlanner x = twoRooms();
-        mustAll(x, 4, 2);
+        Setup.mustAll(x, 4, 2);
         DUE.is("20: with its like", x.place(4, 0), 1);
         rooms("20: with its like", x, 0, 0, 1, 1, 1);
         counts("21: with its like", x, 2, 0, 8, 8);
@@ -108,7 +93,7 @@ public final class PlaceTest {
     private static void notWhereBarred() {
         WallPlanner x = twoRooms();
         x.prices(9, 1);
-        mustAll(x, 4, 2);
+        Setup.mustAll(x, 4, 2);
         x.must(3, 4, 0, true);
         x.bar(4, 3, 1, true);
         // Alone it would need a rule by door 1 to host 2, which lets it to host 3.
@@ -146,21 +131,21 @@ public final class PlaceTest {
 
     private static void strict() {
         WallPlanner x = twoRooms();
-        mustAll(x, 4, 0);
-        mustAll(x, 4, 1);
+        Setup.mustAll(x, 4, 0);
+        Setup.mustAll(x, 4, 1);
         x.law(7, 1, true);
         DUE.is("20: not with unlike ones", x.place(4, 0), 2);
         counts("21: alone", x, 3, 8, 0, 40);
         WallPlanner y = twoRooms();
-        mustAll(y, 4, 0);
-        mustAll(y, 4, 1);
+        Setup.mustAll(y, 4, 0);
+        Setup.mustAll(y, 4, 1);
         DUE.is("20: with unlike ones", y.place(4, 0), 0);
         counts("21: with unlike ones", y, 2, 0, 0, 0);
     }
 
     private static void strictInRoomsMixedBefore() {
-        WallPlanner x = withHosts(0, 1, 2);
-        mustAll(x, 0, 1);
+        WallPlanner x = Setup.withMarks(0, 1, 2);
+        Setup.mustAll(x, 0, 1);
         x.plan(0);
         rooms("20: mixed before", x, 0, 0, 1);
         x.law(7, 1, true);
@@ -172,7 +157,7 @@ public final class PlaceTest {
     }
 
     private static void dayOfThePlace() {
-        WallPlanner x = withHosts(0, 0);
+        WallPlanner x = Setup.withMarks(0, 0);
         x.talk(0, 1, 0, 0, 3);
         x.talk(1, 0, 2, 50, 8);
         x.plan(0);
@@ -191,7 +176,7 @@ public final class PlaceTest {
     }
 
     private static void pricesOfThePlace() {
-        WallPlanner x = withHosts(0, 0);
+        WallPlanner x = Setup.withMarks(0, 0);
         x.must(0, 1, 0, true);
         x.plan(0);
         x.prices(20, 30);
@@ -204,7 +189,7 @@ public final class PlaceTest {
     }
 
     private static void othersInNoRoom() {
-        WallPlanner x = withHosts(0);
+        WallPlanner x = Setup.withMarks(0);
         x.plan(0);
         x.host(0);
         x.host(0);
@@ -221,7 +206,7 @@ public final class PlaceTest {
     }
 
     private static void numbersStay() {
-        WallPlanner x = withHosts(0);
+        WallPlanner x = Setup.withMarks(0);
         x.plan(0);
         for (int host = 1; host < 8; host++) {
             x.host(0);

@@ -24,29 +24,14 @@ public final class PlanTest {
         DUE.end();
     }
 
-    private static WallPlanner withHosts(int... marks) {
-        WallPlanner x = new WallPlanner();
-        for (int mark : marks) {
-            x.host(mark);
-        }
-        return x;
-    }
-
     private static void rooms(String what, WallPlanner x, int... due) {
         for (int host = 0; host < due.length; host++) {
             DUE.is(what + ": room(" + host + ")", x.room(host), due[host]);
         }
     }
 
-    private static void mustAll(WallPlanner x, int from, int to) {
-        for (int door = 0; door < 4; door++) {
-            x.must(from, to, door, true);
-            x.must(to, from, door, true);
-        }
-    }
-
     private static void wrongDays() {
-        WallPlanner x = withHosts();
+        WallPlanner x = Setup.withMarks();
         DUE.is("10: no hosts", x.plan(0), -1);
         x.host(2);
         DUE.is("10: no such day", x.plan(-1), -1);
@@ -68,7 +53,7 @@ public final class PlanTest {
     private static void apartOrTogether() {
         int[] due = {0, 5, 6, 5, 4, 3, 2, 1, 0};
         for (int ways = 0; ways <= 8; ways++) {
-            WallPlanner x = withHosts(0, 0);
+            WallPlanner x = Setup.withMarks(0, 0);
             for (int i = 0; i < ways; i++) {
                 x.talk(i % 2, 1 - i % 2, i / 2, 3, 1);
             }
@@ -78,7 +63,7 @@ public final class PlanTest {
     }
 
     private static void firstOfEqualRooms() {
-        WallPlanner x = withHosts(0, 0);
+        WallPlanner x = Setup.withMarks(0, 0);
         x.must(0, 1, 0, true);
         x.prices(7, 1);
         DUE.is("10: apart as dear as together", x.plan(0), 7);
@@ -89,7 +74,7 @@ public final class PlanTest {
     }
 
     private static void barredWithinARoom() {
-        WallPlanner x = withHosts(0, 0);
+        WallPlanner x = Setup.withMarks(0, 0);
         x.must(0, 1, 0, true);
         x.must(0, 1, 1, true);
         DUE.is("10: together", x.plan(0), 6);
@@ -100,8 +85,8 @@ public final class PlanTest {
     }
 
     private static void barredByARule() {
-        WallPlanner x = withHosts(0, 0, 0);
-        mustAll(x, 1, 2);
+        WallPlanner x = Setup.withMarks(0, 0, 0);
+        Setup.mustAll(x, 1, 2);
         x.must(0, 1, 0, true);
         x.prices(5, 2);
         DUE.is("10: one rule, one stray", x.plan(0), 7);
@@ -120,8 +105,8 @@ public final class PlanTest {
     }
 
     private static void strictApart() {
-        WallPlanner x = withHosts(0, 1, 0);
-        mustAll(x, 0, 1);
+        WallPlanner x = Setup.withMarks(0, 1, 0);
+        Setup.mustAll(x, 0, 1);
         DUE.is("10: together", x.plan(0), 0);
         rooms("10: together", x, 0, 0, 1);
         x.law(7, 1, true);
@@ -133,7 +118,7 @@ public final class PlanTest {
     }
 
     private static void firstOfManyEqualRooms() {
-        WallPlanner x = withHosts(0, 1, 2, 0, 1);
+        WallPlanner x = Setup.withMarks(0, 1, 2, 0, 1);
         x.prices(0, 0);
         x.plan(0);
         rooms("10: all are equal", x, 0, 0, 0, 0, 0);
@@ -149,7 +134,7 @@ public final class PlanTest {
     }
 
     private static void rulesInOrder() {
-        WallPlanner x = withHosts(0, 0, 0, 0);
+        WallPlanner x = Setup.withMarks(0, 0, 0, 0);
         x.prices(0, 99);
         int[][] due = {{0, 1, 3}, {0, 3, 0}, {1, 0, 0}, {1, 0, 2}, {1, 2, 1}, {3, 0, 0}, {3, 2, 0}};
         for (int i = due.length - 1; i >= 0; i--) {
@@ -176,9 +161,9 @@ public final class PlanTest {
 
     /** Hosts 0, 1 in room 0 and 2, 3 in room 1, with rules of several ways between them. */
     private static WallPlanner twoRooms() {
-        WallPlanner x = withHosts(0, 0, 1, 1);
-        mustAll(x, 0, 1);
-        mustAll(x, 2, 3);
+        WallPlanner x = Setup.withMarks(0, 0, 1, 1);
+        Setup.mustAll(x, 0, 1);
+        Setup.mustAll(x, 2, 3);
         x.law(7, 3, true);
         x.prices(9, 1);
         x.talk(0, 2, 1, 5, 4);
@@ -283,15 +268,15 @@ public final class PlanTest {
     }
 
     private static void eightHosts() {
-        WallPlanner x = withHosts(0, 1, 2, 3, 0, 1, 2, 3);
+        WallPlanner x = Setup.withMarks(0, 1, 2, 3, 0, 1, 2, 3);
         for (int host = 0; host < 4; host++) {
-            mustAll(x, host, host + 4);
+            Setup.mustAll(x, host, host + 4);
         }
         DUE.is("10: four pairs", x.plan(0), 0);
         rooms("10: four pairs", x, 0, 1, 2, 3, 0, 1, 2, 3);
         for (int from = 0; from < 8; from++) {
             for (int to = 0; to < from; to++) {
-                mustAll(x, from, to);
+                Setup.mustAll(x, from, to);
             }
         }
         DUE.is("10: all with all", x.plan(0), 0);
@@ -306,7 +291,7 @@ public final class PlanTest {
     }
 
     private static void weightsAreSums() {
-        WallPlanner x = withHosts(0, 0);
+        WallPlanner x = Setup.withMarks(0, 0);
         x.law(3, 6, false);
         x.talk(0, 1, 2, 3, 100);
         x.talk(0, 1, 2, 4, 1);
@@ -318,7 +303,7 @@ public final class PlanTest {
     }
 
     private static void allTalks() {
-        WallPlanner x = withHosts(0, 0);
+        WallPlanner x = Setup.withMarks(0, 0);
         x.law(100, 9999, false);
         for (int i = 0; i < 300; i++) {
             x.talk(0, 1, 3, i % 100, 999);
@@ -331,12 +316,12 @@ public final class PlanTest {
     }
 
     private static void allRules() {
-        WallPlanner x = withHosts(0, 0, 0, 1, 1, 2, 2);
+        WallPlanner x = Setup.withMarks(0, 0, 0, 1, 1, 2, 2);
         x.plan(0);
         x.host(3);
         for (int from = 0; from < 8; from++) {
             for (int to = 0; to < from; to++) {
-                mustAll(x, from, to);
+                Setup.mustAll(x, from, to);
             }
         }
         x.law(7, 1, true);

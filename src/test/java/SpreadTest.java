@@ -21,15 +21,6 @@ public final class SpreadTest {
         DUE.end();
     }
 
-    private static WallPlanner withHosts(int hosts) {
-        WallPlanner x = new WallPlanner();
-        for (int i = 0; i < hosts; i++) {
-            x.host(0);
-        }
-        x.prices(0, 99);
-        return x;
-    }
-
     private static void shuts(String what, WallPlanner x, int... due) {
         for (int k = 0; k < due.length; k++) {
             DUE.is(what + ": shutting(" + k + ")", x.shutting(k), due[k]);
@@ -39,7 +30,7 @@ public final class SpreadTest {
     }
 
     private static void reachOfAChain() {
-        WallPlanner x = withHosts(8);
+        WallPlanner x = Setup.withHostsApart(8);
         for (int host = 7; host > 0; host--) {
             x.must(host, host - 1, host % 4, true);
         }
@@ -58,11 +49,8 @@ public final class SpreadTest {
     }
 
     private static void reachThroughRooms() {
-        WallPlanner x = withHosts(4);
-        for (int door = 0; door < 4; door++) {
-            x.must(1, 2, door, true);
-            x.must(2, 1, door, true);
-        }
+        WallPlanner x = Setup.withHostsApart(4);
+        Setup.mustAll(x, 1, 2);
         x.must(0, 1, 0, true);
         x.must(2, 3, 0, true);
         x.prices(10, 1);
@@ -75,7 +63,7 @@ public final class SpreadTest {
     }
 
     private static void firstOfSpread() {
-        WallPlanner x = withHosts(4);
+        WallPlanner x = Setup.withHostsApart(4);
         x.must(1, 2, 0, true);
         x.must(3, 2, 0, true);
         x.plan(0);
@@ -86,7 +74,7 @@ public final class SpreadTest {
     }
 
     private static void reachOfHostsInNoRoom() {
-        WallPlanner x = withHosts(2);
+        WallPlanner x = Setup.withHostsApart(2);
         DUE.is("14: no plan", x.reach(0), -1);
         DUE.is("15: no plan", x.spread(0), -1);
         x.must(0, 1, 0, true);
@@ -101,7 +89,7 @@ public final class SpreadTest {
     }
 
     private static void reachOfANewPlan() {
-        WallPlanner x = withHosts(3);
+        WallPlanner x = Setup.withHostsApart(3);
         x.talk(0, 1, 0, 0, 1);
         x.talk(1, 2, 0, 0, 1);
         x.plan(0);
@@ -113,7 +101,7 @@ public final class SpreadTest {
     }
 
     private static void shutWrong() {
-        WallPlanner x = withHosts(2);
+        WallPlanner x = Setup.withHostsApart(2);
         DUE.is("16: no plan", x.shut(0), -1);
         x.plan(0);
         DUE.is("16: no such number", x.shut(-1), -1);
@@ -125,7 +113,7 @@ public final class SpreadTest {
     }
 
     private static void shutTheCheapest() {
-        WallPlanner x = withHosts(4);
+        WallPlanner x = Setup.withHostsApart(4);
         x.talk(0, 1, 0, 0, 5);
         x.talk(1, 2, 0, 0, 6);
         x.talk(2, 3, 0, 0, 4);
@@ -143,7 +131,7 @@ public final class SpreadTest {
     }
 
     private static void shutTheLeastNumber() {
-        WallPlanner x = withHosts(3);
+        WallPlanner x = Setup.withHostsApart(3);
         x.talk(0, 1, 0, 0, 3);
         x.talk(1, 2, 0, 0, 3);
         x.plan(0);
@@ -152,7 +140,7 @@ public final class SpreadTest {
     }
 
     private static void shutTheLeastNumberNotTheFewest() {
-        WallPlanner x = withHosts(3);
+        WallPlanner x = Setup.withHostsApart(3);
         x.talk(0, 1, 0, 0, 1);
         x.talk(0, 1, 1, 0, 1);
         x.talk(2, 0, 0, 0, 2);
@@ -162,7 +150,7 @@ public final class SpreadTest {
     }
 
     private static void shutByWeightsOfThen() {
-        WallPlanner x = withHosts(3);
+        WallPlanner x = Setup.withHostsApart(3);
         x.talk(0, 1, 0, 0, 2);
         x.talk(1, 2, 0, 0, 3);
         x.plan(0);
@@ -175,11 +163,8 @@ public final class SpreadTest {
     }
 
     private static void shutCountsOneAtLeast() {
-        WallPlanner x = withHosts(4);
-        for (int door = 0; door < 4; door++) {
-            x.must(1, 2, door, true);
-            x.must(2, 1, door, true);
-        }
+        WallPlanner x = Setup.withHostsApart(4);
+        Setup.mustAll(x, 1, 2);
         x.must(0, 1, 0, true);
         x.must(0, 2, 0, true);
         x.talk(0, 2, 0, 0, 4);
@@ -196,11 +181,8 @@ public final class SpreadTest {
     }
 
     private static void shutCountsNeededWaysOnly() {
-        WallPlanner x = withHosts(3);
-        for (int door = 0; door < 4; door++) {
-            x.must(1, 2, door, true);
-            x.must(2, 1, door, true);
-        }
+        WallPlanner x = Setup.withHostsApart(3);
+        Setup.mustAll(x, 1, 2);
         x.law(7, 5, false);
         x.talk(0, 1, 0, 0, 5);
         x.talk(0, 2, 0, 0, 4);
@@ -211,7 +193,7 @@ public final class SpreadTest {
     }
 
     private static void shutWithMusts() {
-        WallPlanner x = withHosts(4);
+        WallPlanner x = Setup.withHostsApart(4);
         x.talk(0, 1, 0, 0, 1);
         x.talk(1, 2, 0, 0, 9);
         x.talk(2, 3, 0, 0, 7);
@@ -230,7 +212,7 @@ public final class SpreadTest {
     }
 
     private static void shutSpent() {
-        WallPlanner x = withHosts(8);
+        WallPlanner x = Setup.withHostsApart(8);
         for (int i = 0; i < 12; i++) {
             x.talk(i / 4, 7, i % 4, 0, 1 + i);
         }
@@ -253,7 +235,7 @@ public final class SpreadTest {
     }
 
     private static void shuttingStays() {
-        WallPlanner x = withHosts(3);
+        WallPlanner x = Setup.withHostsApart(3);
         x.talk(0, 1, 0, 0, 9);
         x.talk(1, 2, 0, 0, 3);
         x.plan(0);

@@ -17,14 +17,6 @@ public final class TellingTest {
         DUE.end();
     }
 
-    private static WallPlanner withHosts(int hosts) {
-        WallPlanner x = new WallPlanner();
-        for (int i = 0; i < hosts; i++) {
-            x.host(0);
-        }
-        return x;
-    }
-
     private static void newObject() {
         WallPlanner x = new WallPlanner();
         for (int what = 0; what < 5; what++) {
@@ -50,7 +42,7 @@ public final class TellingTest {
     }
 
     private static void objectsAreApart() {
-        WallPlanner x = withHosts(2);
+        WallPlanner x = Setup.withHosts(2);
         x.talk(0, 1, 0, 0, 1);
         x.plan(0);
         WallPlanner y = new WallPlanner();
@@ -75,7 +67,7 @@ public final class TellingTest {
     }
 
     private static void talks() {
-        WallPlanner x = withHosts(2);
+        WallPlanner x = Setup.withHosts(2);
         int[][] wrong = {
             {0, 0, 0, 0, 1}, {0, 2, 0, 0, 1}, {2, 0, 0, 0, 1}, {-1, 0, 0, 0, 1}, {0, -1, 0, 0, 1},
             {0, 1, -1, 0, 1}, {0, 1, 4, 0, 1}, {0, 1, 0, -1, 1}, {0, 1, 0, 100, 1}, {0, 1, 0, 0, 0},
@@ -93,7 +85,7 @@ public final class TellingTest {
     }
 
     private static void talksAreFew() {
-        WallPlanner x = withHosts(2);
+        WallPlanner x = Setup.withHosts(2);
         for (int i = 1; i <= 300; i++) {
             DUE.is("3: talk " + i, x.talk(0, 1, 0, 5, 999), i);
         }
@@ -103,7 +95,7 @@ public final class TellingTest {
     }
 
     private static void musts() {
-        WallPlanner x = withHosts(3);
+        WallPlanner x = Setup.withHosts(3);
         DUE.no("4: to itself", x.must(1, 1, 0, true));
         DUE.no("4: no such host", x.must(0, 3, 0, true));
         DUE.no("4: no such host", x.must(-1, 0, 0, true));
@@ -125,7 +117,7 @@ public final class TellingTest {
     }
 
     private static void bars() {
-        WallPlanner x = withHosts(3);
+        WallPlanner x = Setup.withHosts(3);
         x.talk(0, 1, 2, 0, 50);
         DUE.no("5: to itself", x.bar(1, 1, 0, true));
         DUE.no("5: no such host", x.bar(0, 3, 0, true));
@@ -146,7 +138,7 @@ public final class TellingTest {
     }
 
     private static void laws() {
-        WallPlanner x = withHosts(2);
+        WallPlanner x = Setup.withHosts(2);
         x.talk(0, 1, 0, 10, 4);
         DUE.is("6: the window is 7 at first", x.weight(0, 1, 0, 16), 4);
         DUE.is("6: the window is 7 at first", x.weight(0, 1, 0, 17), 0);
@@ -182,7 +174,7 @@ public final class TellingTest {
     }
 
     private static void prices() {
-        WallPlanner x = withHosts(2);
+        WallPlanner x = Setup.withHosts(2);
         x.must(0, 1, 0, true);
         DUE.is("7: 5 and 1 at first", x.plan(0), 5);
         x.must(0, 1, 1, true);
@@ -203,7 +195,7 @@ public final class TellingTest {
     }
 
     private static void weights() {
-        WallPlanner x = withHosts(3);
+        WallPlanner x = Setup.withHosts(3);
         x.law(3, 1, false);
         x.talk(0, 1, 2, 0, 1);
         x.talk(0, 1, 2, 1, 10);
@@ -227,7 +219,7 @@ public final class TellingTest {
     }
 
     private static void needs() {
-        WallPlanner x = withHosts(2);
+        WallPlanner x = Setup.withHosts(2);
         x.law(7, 10, false);
         x.talk(0, 1, 0, 5, 9);
         DUE.is("9: less than the least", x.needed(0, 1, 0, 5), 0);
