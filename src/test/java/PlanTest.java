@@ -21,6 +21,17 @@ public final class PlanTest {
         weightsAreSums();
         allTalks();
         allRules();
+        eachHostIsInARoom();
+        allIsLetWithinARoom();
+        oneDoorOneWay();
+        eachBarredWayWithinARoom();
+        eachBarredWayByARule();
+        strictByMarks();
+        straysAreCounted();
+        firstOfSeveralPlans();
+        dearerByOne();
+        roomsByTheirLeastHosts();
+        rulesByRoomsNotHosts();
         DUE.end();
     }
 
@@ -335,5 +346,197 @@ public final class PlanTest {
         DUE.is("14: with all rules", x.reach(0), 7);
         DUE.is("16: none can be shut", x.shut(7), 0);
         DUE.is("16: none can be shut", x.shut(6), -1);
+    }
+
+    /** "each HOST is in a ROOM"; "ROOMS are numbered from 0 on". */
+    private static void eachHostIsInARoom() {
+        for (int hosts = 1; hosts <= 8; hosts++) {
+            WallPlanner x = Setup.withHosts(hosts);
+            x.must(0, 1, 0, true);
+            x.plan(0);
+            for (int host = 0; host < 8; host++) {
+                DUE.is("11: of " + hosts + " hosts, host " + host, x.room(host), host < hosts ? host : -1);
+            }
+            DUE.is("21: rooms of " + hosts, x.count(2), hosts);
+        }
+    }
+
+    /** "Within a ROOM all WAYS are LET." */
+    private static void allIsLetWithinARoom() {
+        WallPlanner x = Setup.withMarks(0, 1);
+        x.must(0, 1, 0, true);
+        x.prices(99, 1);
+        x.plan(0);
+        for (int way = 0; way < 8; way++) {
+            DUE.is("13: within a room", x.lets(way % 2, 1 - way % 2, way / 2), 1);
+        }
+        DUE.is("21: no rule within a room", x.count(3), 0);
+    }
+
+    /** "Between two ROOMS there is a RULE for a DOOR, the one way". */
+    private static void oneDoorOneWay() {
+        for (int needed = 0; needed < 8; needed++) {
+            WallPlanner x = Setup.withHostsApart(2);
+            x.must(needed % 2, 1 - needed % 2, needed / 2, true);
+            x.plan(0);
+            DUE.is("21: one rule", x.count(3), 1);
+            DUE.is("12: its first room", x.rule(0, 0), needed % 2);
+            DUE.is("12: its second room", x.rule(0, 1), 1 - needed % 2);
+            DUE.is("12: its door", x.rule(0, 2), needed / 2);
+            for (int way = 0; way < 8; way++) {
+                DUE.is("13: by this rule alone", x.lets(way % 2, 1 - way % 2, way / 2), way == needed ? 2 : 0);
+            }
+        }
+    }
+
+    /** "No WAY that is BARRED may be LET": any one of them keeps the two apart, however dear it is. */
+    private static void eachBarredWayWithinARoom() {
+        for (int barred = 1; barred < 8; barred++) {
+            WallPlanner x = Setup.withHosts(2);
+            x.must(0, 1, 0, true);
+            x.prices(99, 0);
+            DUE.is("10: nothing barred", x.plan(0), 0);
+            DUE.yes("5: barred", x.bar(barred % 2, 1 - barred % 2, barred / 2, true));
+            DUE.is("10: a way barred", x.plan(0), 99);
+            rooms("10: a way barred", x, 0, 1);
+            x.bar(barred % 2, 1 - barred % 2, barred / 2, false);
+            DUE.is("10: barred no more", x.plan(0), 0);
+        }
+    }
+
+    /** The one of two in a room may not be come to by a rule that the other needs: the same door and way alone. */
+    private static void eachBarredWayByARule() {
+        for (int way = 0; way < 8; way++) {
+            WallPlanner x = Setup.withMarks(0, 1, 1);
+            x.law(7, 1, true);
+            Setup.mustAll(x, 1, 2);
+            x.must(0, 1, 1, true);
+            x.prices(5, 0);
+            DUE.is("10: nothing barred", x.plan(0), 5);
+            boolean same = way == 2;
+            x.bar(way % 2 == 0 ? 0 : 2, way % 2 == 0 ? 2 : 0, way / 2, true);
+            DUE.is("10: a way barred, " + way, x.plan(0), same ? 45 : 5);
+            rooms("10: a way barred, " + way, x, 0, 1, same ? 2 : 1);
+        }
+    }
+
+    /** "if STRICT, HOSTS of unlike MARKS aren't in one ROOM". */
+    private static void strictByMarks() {
+        for (int marks = 0; marks < 16; marks++) {
+            WallPlanner x = Setup.withMarks(marks / 4, marks % 4);
+            x.prices(0, 0);
+            x.plan(0);
+            rooms("10: not strict", x, 0, 0);
+            x.law(7, 1, true);
+            x.plan(0);
+            rooms("10: strict, marks " + marks / 4 + ", " + marks % 4, x, 0, marks / 4 == marks % 4 ? 0 : 1);
+            x.law(7, 1, false);
+            x.plan(0);
+            rooms("10: not strict again", x, 0, 0);
+        }
+    }
+
+    /** "STRAYS: WAYS that are LET and not NEEDED", within a room and by a rule. */
+    private static void straysAreCounted() {
+        WallPlanner x = Setup.withMarks(0, 0, 1, 1);
+        x.law(7, 1, true);
+        x.prices(30, 1);
+        x.must(0, 1, 0, true);
+        x.must(2, 3, 0, true);
+        x.must(0, 2, 0, true);
+        DUE.is("10: 7 and 7 within rooms, 3 by a rule", x.plan(0), 30 + 17);
+        DUE.is("21: strays", x.count(4), 17);
+        x.must(1, 3, 0, true);
+        DUE.is("10: one fewer", x.plan(0), 30 + 16);
+        DUE.is("21: strays", x.count(4), 16);
+    }
+
+    /** "of several the first by the ROOMS of HOSTS 0, 1, 2, .. in turn". */
+    private static void firstOfSeveralPlans() {
+        WallPlanner x = Setup.withHosts(3);
+        x.prices(30, 1);
+        x.must(0, 1, 0, true);
+        x.must(0, 2, 0, true);
+        x.bar(1, 2, 3, true);
+        DUE.is("10: 0 with 1, or 0 with 2", x.plan(0), 38);
+        rooms("10: 0 with 1, or 0 with 2", x, 0, 0, 1);
+        WallPlanner y = Setup.withHosts(3);
+        y.prices(30, 1);
+        y.must(0, 2, 0, true);
+        y.must(1, 2, 0, true);
+        y.bar(0, 1, 3, true);
+        DUE.is("10: 0 with 2, or 1 with 2", y.plan(0), 38);
+        rooms("10: 0 with 2, or 1 with 2", y, 0, 1, 0);
+        WallPlanner z = Setup.withHosts(3);
+        z.prices(7, 1);
+        z.must(1, 2, 0, true);
+        DUE.is("10: 1 with 2, or each alone", z.plan(0), 7);
+        rooms("10: 1 with 2, or each alone", z, 0, 1, 1);
+        WallPlanner w = Setup.withHosts(4);
+        w.prices(7, 1);
+        w.must(0, 1, 0, true);
+        w.must(2, 3, 0, true);
+        DUE.is("10: two pairs, one or none", w.plan(0), 14);
+        rooms("10: two pairs, one or none", w, 0, 0, 1, 1);
+    }
+
+    /** "The PLAN is that of the least COST": by one less a later one is taken. */
+    private static void dearerByOne() {
+        WallPlanner x = Setup.withHosts(3);
+        x.prices(30, 1);
+        x.must(0, 1, 0, true);
+        x.must(0, 2, 0, true);
+        x.must(0, 2, 1, true);
+        x.bar(1, 2, 3, true);
+        DUE.is("10: 0 with 2 is cheaper", x.plan(0), 37);
+        rooms("10: 0 with 2 is cheaper", x, 0, 1, 0);
+        WallPlanner y = Setup.withHosts(2);
+        y.must(0, 1, 0, true);
+        int[][] prices = {{6, 1, 6, 1}, {7, 1, 7, 0}, {8, 1, 7, 0}, {99, 14, 98, 0}, {97, 14, 97, 1}, {98, 14, 98, 0}};
+        for (int[] p : prices) {
+            y.prices(p[0], p[1]);
+            DUE.is("10: a rule for " + p[0] + " or 7 strays for " + p[1], y.plan(0), p[2]);
+            rooms("10: a rule for " + p[0] + " or 7 strays for " + p[1], y, 0, p[3]);
+        }
+    }
+
+    /** "ROOMS are numbered from 0 on in order of their least HOSTS". */
+    private static void roomsByTheirLeastHosts() {
+        int[][] due = {
+            {0, 1, 1, 0, 2, 2, 1, 0}, {0, 1, 2, 3, 3, 2, 1, 0}, {0, 1, 2, 3, 4, 5, 6, 0}, {0, 1, 1, 1, 1, 1, 1, 1},
+        };
+        for (int[] rooms : due) {
+            WallPlanner x = Setup.withHosts(8);
+            for (int one = 0; one < 8; one++) {
+                for (int other = 0; other < one; other++) {
+                    if (rooms[one] == rooms[other]) {
+                        Setup.mustAll(x, other, one);
+                    }
+                }
+            }
+            DUE.is("10: rooms without strays", x.plan(0), 0);
+            rooms("11: rooms by their least hosts", x, rooms);
+        }
+    }
+
+    /** "RULES are in order of the first ROOM, the second one, the DOOR": host 3 is in room 0, and 1 in room 1. */
+    private static void rulesByRoomsNotHosts() {
+        WallPlanner x = Setup.withHosts(4);
+        Setup.mustAll(x, 0, 3);
+        x.prices(9, 3);
+        x.must(1, 2, 0, true);
+        x.must(1, 3, 3, true);
+        x.must(3, 2, 1, true);
+        x.must(3, 1, 2, true);
+        x.bar(1, 2, 3, true);
+        DUE.is("10: four rules, three strays", x.plan(0), 45);
+        rooms("11: 0 and 3 together", x, 0, 1, 2, 0);
+        int[][] due = {{0, 1, 2}, {0, 2, 1}, {1, 0, 3}, {1, 2, 0}};
+        DUE.is("21: rules", x.count(3), due.length);
+        for (int k = 0; k < due.length; k++) {
+            for (int what = 0; what < 3; what++) {
+                DUE.is("12: rule(" + k + ", " + what + ")", x.rule(k, what), due[k][what]);
+            }
+        }
     }
 }
