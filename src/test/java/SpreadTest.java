@@ -319,6 +319,13 @@ public final class SpreadTest {
         x.place(3, 9);
         DUE.is("15: it is placed", x.spread(0), 3);
         DUE.is("15: it is placed", x.spread(1), 3);
+        x.host(0);
+        x.host(0);
+        x.must(5, 3, 0, true);
+        x.place(5, 9);
+        DUE.is("15: one in no room before it", x.spread(0), 4);
+        DUE.is("15: one in no room before it", x.spread(1), 5);
+        DUE.is("14: one in no room before it", x.reach(4), -1);
     }
 
     /** "for which, were they not there, SPREAD is at most told": nothing need go if it is so already. */

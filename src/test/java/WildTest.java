@@ -28,7 +28,7 @@ public final class WildTest {
     }
 
     private void go(Due due, int run) {
-        for (int call = 0; call < 512; call++) {
+        for (int call = 0; call < 509; call++) {
             int what = random.nextInt(20);
             try {
                 tell(what);
