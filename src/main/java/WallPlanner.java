@@ -541,7 +541,8 @@ public final class WallPlanner {
 
         /** All others stay where they are in the plan; answers NONE if the host can be nowhere. */
         int seekRoomFor(int host, Plan plan, Net net, Law law, Needs needs) {
-            leastCost = Integer.MAX_VALUE;
+            // There are never more rules than ways, nor more strays: every room is cheaper than this.
+            leastCost = law.costOf(WAYS, WAYS) + 1;
             trial.copyRooms(plan.layout.roomOf);
             int rooms = trial.roomCount();
             int best = NONE;

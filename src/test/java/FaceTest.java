@@ -6,7 +6,7 @@ import java.util.Arrays;
 import java.util.Set;
 import java.util.TreeSet;
 
-/** The public face of the document, and LANGUAGE.md's rule 1 and 5: no other member can be seen, nothing static moves. */
+/** The public face of the document; LANGUAGE.md's rules 1, 5, 11: no other member can be seen, nothing static moves. */
 public final class FaceTest {
     private static final String[] METHODS = {
         "int host(int)", "int talk(int, int, int, int, int)", "boolean must(int, int, int, boolean)",
@@ -73,11 +73,14 @@ public final class FaceTest {
     }
 
     private static void fields(Due due, Class<?> owner) {
+        int own = 0;
         for (Field field : owner.getDeclaredFields()) {
             int modifiers = field.getModifiers();
+            own += Modifier.isStatic(modifiers) ? 0 : 1;
             boolean isNone = field.getName().equals("NONE") && Modifier.isPublic(modifiers);
             due.yes(field + " is private, or NONE", isNone || Modifier.isPrivate(modifiers));
             due.yes(field + " is final if static", !Modifier.isStatic(modifiers) || Modifier.isFinal(modifiers));
         }
+        due.yes(owner + " has some twenty fields at most", own <= 20);
     }
 }
